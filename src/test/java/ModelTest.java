@@ -15,7 +15,7 @@ public final class ModelTest {
     static final int CALLS = 512;
 
     public static void main(String[] args) {
-        int runs = args.length > 0 ? Integer.parseInt(args[0]) : 240;
+        int runs = args.length > 0 ? Integer.parseInt(args[0]) : 600;
         long seed = args.length > 1 ? Long.parseLong(args[1]) : 1;
         int wrong = 0;
         int[] answers = new int[7];

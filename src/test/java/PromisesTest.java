@@ -380,6 +380,15 @@ public final class PromisesTest {
         due("told(2)", x.told(2), 20);
         due("end of all", x.end((1 << 20) - 1), 35);
         due("plan of all", x.plan((1 << 20) - 1, 0, 1), 24);
+        // Calls that go through all EVENTS, when there can be no more.
+        due("known(10)", x.known(10), (1 << 20) - 1);
+        due("one(19, 10)", x.one(19, 10), 1);
+        due("without(1, 10)", x.without(1, 10), 11);
+        due("butFor(1, 10)", x.butFor(1, 10), 0);
+        due("butFor(3, 10)", x.butFor(3, 10), 11);
+        due("window(5, 0, 1, 10)", x.window(5, 0, 1, 10), 18);
+        due("claim(4)", x.claim(4), 3);
+        due("claim(5)", x.claim(5), 0);
     }
 
     private static void notice() {
@@ -1352,6 +1361,17 @@ public final class PromisesTest {
         due("clause(1, 0)", x.clause(1, 0), 1);
         due("says(1, 0)", x.says(1, 0), 2);
         x.restore();
+        // Rain up to the last day that can have some.
+        WhoseDelay y = with(1, 1);
+        for (int day = 0; day < 900; day += 60) {
+            y.rain(day, 60, true);
+        }
+        y.rain(899, 1, false);
+        y.image();
+        y.rain(899, 1, true);
+        due("end(0)", y.end(0), 901);
+        y.restore();
+        due("end(0)", y.end(0), 900);
         due("told(4)", x.told(4), 1);
         due("says(1, 0)", x.says(1, 0), 21);
     }

@@ -302,7 +302,7 @@ class Edges {
         return x;
     }
 
-    static final int[][] RICH_LINKS = {{0, 1, 3}, {1, 3, 0}, {2, 5, 20}, {4, 5, 1}};
+    static final int[][] RICH_LINKS = {{0, 1, 20}, {1, 3, 0}, {2, 5, 3}, {4, 5, 1}};
 
     /** An object that can have no more of anything. */
     static WhoseDelay full() {
@@ -359,7 +359,11 @@ class Edges {
         for (int what = 0; what <= 5; what++) {
             b.append(' ').append(x.claim(what));
         }
-        b.append("\nleast ").append(x.least(9999, -1)).append(' ').append(x.least(x.end(x.known(900)) - 1, -1)).append("\nhurried ").append(x.calm());
+        int end = x.end(x.known(900));
+        for (int day = end; day > end - 4; day--) {
+            b.append("\nleast ").append(x.least(day, -1)).append(' ').append(x.least(day, 0)).append(' ').append(x.least(day, 1));
+        }
+        b.append("\nhurried ").append(x.calm());
         readSheets(x, b);
         b.append("\nlinks");
         for (int[] link : links) {

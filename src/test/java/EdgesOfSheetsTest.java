@@ -287,34 +287,25 @@ public final class EdgesOfSheetsTest extends Edges {
         due("found(1)", x.found(1), 2);
     }
 
+    private static final String AS_THE_IMAGE = "All is as the IMAGE has it, which stays: TODAY";
+
     /** The fullest there can be, all made otherwise, and as it was again. */
-    @Says(in = "Promise 37", text = "All is as the IMAGE has it, which stays: TODAY")
-    static void restoreAll() {
+    @Says(in = "Promise 37", text = AS_THE_IMAGE)
+    static void restoreTheFullest() {
         for (int times = 1; times <= 2; times++) {
             WhoseDelay x = full();
             due("image()", x.image(), 1);
             for (int i = 0; i < times; i++) {
-                spoil(x);
+                spoilTheFullest(x);
                 due("restore()", x.restore(), 30);
             }
             WhoseDelay y = full();
             y.image();
             due("all that is read behind restore()", readOut(x, fullLinks()), readOut(y, fullLinks()));
         }
-        WhoseDelay z = new WhoseDelay();
-        z.image();
-        z.work(0, 1);
-        z.today(900);
-        z.week(1);
-        z.rain(0, 60, true);
-        due("restore() of an empty one", z.restore(), 0);
-        for (int what = 0; what <= 9; what++) {
-            due("told(" + what + ")", z.told(what), 0);
-        }
-        due("week(31)", z.week(31), 31);
     }
 
-    private static void spoil(WhoseDelay x) {
+    private static void spoilTheFullest(WhoseDelay x) {
         x.calm();
         for (int w = 0; w < 16; w += 5) {
             x.edit(w, 1);
@@ -328,6 +319,95 @@ public final class EdgesOfSheetsTest extends Edges {
         x.today(900);
         x.back(1);
         x.hurry(0, 1, 1);
+    }
+
+    /** What can still become more does, and what can be otherwise is. */
+    @Says(in = "Promise 37", text = AS_THE_IMAGE)
+    static void restoreWhatBecameMore() {
+        for (int times = 1; times <= 2; times++) {
+            WhoseDelay x = rich();
+            due("image()", x.image(), 2);
+            for (int i = 0; i < times; i++) {
+                spoil(x);
+                due("restore()", x.restore(), 15);
+            }
+            WhoseDelay y = rich();
+            y.image();
+            // THE TRACE is of the latest voice(), and no IMAGE keeps it.
+            y.voice(6, 3, 1);
+            due("all that is read behind restore()", readOut(x, RICH_LINKS), readOut(y, RICH_LINKS));
+        }
+    }
+
+    private static void spoil(WhoseDelay x) {
+        x.work(5, 40);
+        x.edit(1, 40);
+        x.calm();
+        x.hurry(4, 1, 1);
+        x.hurry(3, 2, 999);
+        x.hurry(1, 1, 1);
+        for (int[] link : RICH_LINKS) {
+            x.unlink(link[0], link[1]);
+            x.link(link[0], link[1], 20 - link[2]);
+            x.unlink(link[0], link[1]);
+            x.link(link[1], link[0], link[2]);
+        }
+        x.week(1);
+        x.rain(0, 60, true);
+        x.rain(4, 1, false);
+        x.rain(898, 1, false);
+        x.notice(2, 13);
+        x.today(700);
+        x.back(0);
+        x.event(72, 600, 30);
+        clauseOf(x, 0, 0, "");
+        clauseOf(x, 1, 1, "9999");
+        feedText(x, "))))");
+        x.voice(6, 3, 1);
+    }
+
+    @Says(in = "Promise 37", text = AS_THE_IMAGE)
+    static void restoreTheLastDayOfRain() {
+        WhoseDelay x = with(1, 1);
+        for (int day = 0; day < 900; day += 60) {
+            x.rain(day, 60, true);
+        }
+        x.rain(899, 1, false);
+        x.image();
+        x.rain(899, 1, true);
+        due("end(0) with RAIN on all days", x.end(0), 901);
+        x.restore();
+        due("end(0) without RAIN on the last", x.end(0), 900);
+        due("told(6)", x.told(6), 899);
+    }
+
+    @Says(in = "Promise 37", text = AS_THE_IMAGE)
+    static void restoreNothing() {
+        WhoseDelay x = new WhoseDelay();
+        x.image();
+        x.work(0, 1);
+        x.work(4, 1);
+        x.link(0, 1, 9);
+        x.today(900);
+        x.event(0, 0, 1);
+        x.notice(0, 9);
+        x.week(1);
+        x.rain(0, 60, true);
+        due("restore() of an empty one", x.restore(), 0);
+        for (int what = 0; what <= 9; what++) {
+            due("told(" + what + ")", x.told(what), 0);
+        }
+        due("week(31)", x.week(31), 31);
+        // What comes now has nothing of what was there.
+        x.work(1, 3);
+        x.work(1, 2);
+        due("plan(0, 1, 0)", x.plan(0, 1, 0), 0);
+        due("unlink(0, 1)", x.unlink(0, 1), NONE);
+        due("end(0)", x.end(0), 3);
+        due("voice(0, 0, 0)", x.voice(0, 0, 0), 3);
+        x.event(0, 0, 1);
+        due("of(0, 4)", x.of(0, 4), -1);
+        due("of(0, 5)", x.of(0, 5), 0);
     }
 
     @Says(in = "Promise 37", text = "NONE: there is none")

@@ -33,14 +33,16 @@ public final class EdgesOfTermsTest extends Edges {
 
     @Says(in = "Term 1", text = "day d is a WORKING one if d modulo 7 is in it")
     static void weekGoesRound() {
-        for (int d = 0; d < 7; d++) {
-            WhoseDelay x = with(0, 1, 2);
-            x.week(1 << d);
-            due("a day of a WEEK of day " + d, x.plan(0, 0, 1), d + 1);
-            due("two days of a WEEK of day " + d, x.plan(0, 1, 1), d + 8);
-            x.week(127 - (1 << d));
-            due("a day of a WEEK without day " + d, x.plan(0, 0, 1), d == 0 ? 2 : 1);
-            due("two days of a WEEK without day " + d, x.plan(0, 1, 1), d < 2 ? 3 : 2);
+        for (int kind = 0; kind < 2; kind++) {
+            for (int d = 0; d < 7; d++) {
+                WhoseDelay x = with(kind, 1, 2);
+                x.week(1 << d);
+                due("a day of a WEEK of day " + d, x.plan(0, 0, 1), d + 1);
+                due("two days of a WEEK of day " + d, x.plan(0, 1, 1), d + 8);
+                x.week(127 - (1 << d));
+                due("a day of a WEEK without day " + d, x.plan(0, 0, 1), d == 0 ? 2 : 1);
+                due("two days of a WEEK without day " + d, x.plan(0, 1, 1), d < 2 ? 3 : 2);
+            }
         }
         // 40 days, one a week, four times: each begins on the first day 0 of a week behind the one ahead.
         for (int kind = 0; kind < 2; kind++) {
@@ -56,9 +58,9 @@ public final class EdgesOfTermsTest extends Edges {
     @Says(in = "Term 1", text = "RAIN falls on days 0 .. 899 that are told (none at first)")
     static void rainFallsOnDays0To899() {
         WhoseDelay x = with(1, 1);
-        x.week(127);
         due("told(6) at first", x.told(6), 0);
         due("a DIGGING of a day without RAIN", x.end(0), 1);
+        x.week(127);
         due("rain(0, 1, true)", x.rain(0, 1, true), 1);
         due("a DIGGING of a day with RAIN on day 0", x.end(0), 2);
         for (int day = 0; day < 900; day += 60) {
@@ -71,6 +73,11 @@ public final class EdgesOfTermsTest extends Edges {
         due("a DIGGING of a day with RAIN on all days but the last", x.end(0), 900);
         x.edit(0, 2);
         due("a DIGGING of two days with RAIN on all days but the last", x.end(0), 901);
+        x.rain(898, 1, false);
+        due("a DIGGING of two days with RAIN on all days but two", x.end(0), 900);
+        x.rain(899, 1, true);
+        x.edit(0, 1);
+        due("a DIGGING of a day with RAIN on all days but the last but one", x.end(0), 899);
     }
 
     @Says(in = "Term 1", text = "WORKS 0, 1, .. (at most 16)")
@@ -233,6 +240,16 @@ public final class EdgesOfTermsTest extends Edges {
         x.unlink(0, 2);
         x.unlink(1, 2);
         due("READY with no LINK any more", x.plan(0, 2, 0), 0);
+        // WORKS that wait for ones of greater numbers.
+        int ready = 3 * 15 + 15 * 16 / 2;
+        for (int w = 0; w < 16; w++) {
+            WhoseDelay y = many(16, 4, 3);
+            for (int from = 15; from > 0; from--) {
+                y.link(from, from - 1, from);
+            }
+            due("READY of " + w, y.plan(0, w, 0), ready);
+            ready -= 3 + w + 1;
+        }
     }
 
     @Says(in = "Term 1", text = "Its END is the first day behind READY")
@@ -435,6 +452,7 @@ public final class EdgesOfTermsTest extends Edges {
         due("chain(0, 0) of 3, 5, 5", with(4, 3, 5, 5).chain(0, 0), 1);
         due("chain(0, 0) of 5, 5, 5", with(4, 5, 5, 5).chain(0, 0), 0);
         due("chain(0, 0) of 3, 4, 5", with(4, 3, 4, 5).chain(0, 0), 2);
+        due("chain(0, 0) of one", with(4, 5).chain(0, 0), 0);
         due("chain(0, 0) without WORKS", new WhoseDelay().chain(0, 0), NONE);
         WhoseDelay x = with(4, 5, 5);
         x.event(10, 0, 1);
